@@ -18,12 +18,13 @@ public final class KinInTheHeap {
 
     // Tokens of a text, and the codes it is kept as: 0 .. 9999 a number, NAMES and more a name, below 0 the rest.
     private static final int NAMES = 10000, END = -1, WRONG = -2, KEY = -3, SIGN = -10;
-    private static final int GOES = KEY, OR = KEY - 3, AND = KEY - 4, NOT = KEY - 5;
+    private static final int OR = KEY - 3, AND = KEY - 4, NOT = KEY - 5;
     private static final String SIGNS = "();+-*<=";
     private static final int OPEN = SIGN, CLOSE = SIGN - 1, STOP = SIGN - 2, PLUS = SIGN - 3, MINUS = SIGN - 4;
     private static final int TIMES = SIGN - 5, LESS = SIGN - 6, SAME = SIGN - 7, NEGATE = SIGN - 8;
     private static final int KEY_WORDS = 6, WORDS = 12, MOST_DIGITS = 4, MOST_OPEN = 5;
-    private static final int FORCE_NAME = 0, NUMBER_NAME = 1, ROW_NAME = 2, COLUMN_NAME = 3, KIN_NAME = 4;
+    private static final int FORCE_FACT = 0, NUMBER_FACT = 1, ROW_FACT = 2, COLUMN_FACT = 3, KIN_FACT = 4, WEEK_FACT = 5;
+    private static final int FACTS = 6;
 
     private final Text[] texts = new Text[TEXTS];
     private final Sheet[] sheets = new Sheet[SHEETS];
@@ -201,22 +202,15 @@ public final class KinInTheHeap {
     }
 
     public int best(int what) {
-        switch (what) {
-            case 0:
-                return mostTogether();
-            case 1:
-                return togetherBy(mostTogether());
-            case 2:
-                return leastSpread();
-            case 3:
-                return spreadBy(leastSpread());
-            case 4:
-                return fewestLost();
-            case 5:
-                return outByFewestLost();
-            default:
-                return BAD;
+        if (!within(what, 0, 5)) {
+            return BAD;
         }
+        int s = what < 2 ? mostTogether() : what < 4 ? leastSpread() : fewestLost();
+        if (what % 2 == 0 || s == NONE) {
+            return s;
+        }
+        think(s);
+        return what == 1 ? thought.together() : what == 3 ? thought.spread() : thought.outs();
     }
 
     public int save(int s, int what) {
@@ -596,21 +590,12 @@ public final class KinInTheHeap {
         return NONE;
     }
 
-    private int togetherBy(int s) {
-        think(s);
-        return thought.together();
-    }
-
-    private int spreadBy(int s) {
-        think(s);
-        return thought.spread();
-    }
-
     private int mostTogether() {
         int first = 0;
         int most = -1;
         for (int s = 0; s < STROKES; s++) {
-            int twos = togetherBy(s);
+            think(s);
+            int twos = thought.together();
             if (twos > most) {
                 most = twos;
                 first = s;
@@ -623,7 +608,8 @@ public final class KinInTheHeap {
         int first = 0;
         int least = Integer.MAX_VALUE;
         for (int s = 0; s < STROKES; s++) {
-            int apart = spreadBy(s);
+            think(s);
+            int apart = thought.spread();
             if (apart < least) {
                 least = apart;
                 first = s;
@@ -637,21 +623,13 @@ public final class KinInTheHeap {
         int fewest = DUSTS + 1;
         for (int s = 0; s < STROKES; s++) {
             think(s);
-            if (thought.differs(now) && thought.outs() < fewest) {
-                fewest = thought.outs();
+            int out = thought.outs();
+            if (out < fewest && thought.differs(now)) {
+                fewest = out;
                 first = s;
             }
         }
         return first;
-    }
-
-    private int outByFewestLost() {
-        int s = fewestLost();
-        if (s == NONE) {
-            return NONE;
-        }
-        think(s);
-        return thought.outs();
     }
 
     private int saving(int s) {
@@ -693,14 +671,13 @@ public final class KinInTheHeap {
         if (below <= 0 || !within(part, 0, 1)) {
             return NO;
         }
-        int common = below;
-        int rest = above;
-        while (rest > 0) {
-            int left = common % rest;
-            common = rest;
-            rest = left;
+        int term = part == 0 ? above : below;
+        for (int d = below; d > 1; d--) {
+            if (above % d == 0 && below % d == 0) {
+                return term / d;
+            }
         }
-        return part == 0 ? above / common : below / common;
+        return term;
     }
 
     private static int tellingRefused(Sheet row) {
@@ -846,6 +823,7 @@ public final class KinInTheHeap {
         int dusts;
         private final Text[] texts;
         private final int[] nexts = new int[DUSTS];
+        private final int[] facts = new int[FACTS];
 
         Floor(Text[] texts) {
             this.texts = texts;
@@ -901,12 +879,16 @@ public final class KinInTheHeap {
         }
 
         boolean areGathered(int some) {
-            for (int c = 0; c < CELLS; c++) {
-                if ((thoseIn(c) & some) == some) {
-                    return true;
+            int c = NONE;
+            for (int d = 0; d < dusts; d++) {
+                if ((some >> d & 1) != 0) {
+                    if (cells[d] == NONE || c != NONE && cells[d] != c) {
+                        return false;
+                    }
+                    c = cells[d];
                 }
             }
-            return false;
+            return c != NONE;
         }
 
         boolean differs(Floor other) {
@@ -968,24 +950,13 @@ public final class KinInTheHeap {
         }
 
         int kin(int one) {
-            return Integer.bitCount(thoseIn(cells[one]));
-        }
-
-        int named(int name, int one) {
-            switch (name) {
-                case FORCE_NAME:
-                    return strength;
-                case NUMBER_NAME:
-                    return numbers[one];
-                case ROW_NAME:
-                    return cells[one] / SIDE;
-                case COLUMN_NAME:
-                    return cells[one] % SIDE;
-                case KIN_NAME:
-                    return kin(one);
-                default:
-                    return weeks;
+            int many = 0;
+            for (int d = 0; d < dusts; d++) {
+                if (cells[d] == cells[one]) {
+                    many++;
+                }
             }
+            return many;
         }
 
         int far(int one) {
@@ -1042,8 +1013,12 @@ public final class KinInTheHeap {
 
         /** A stroke: how many come to be out by it. */
         int brush(int s) {
+            int way = (s < ROW_STROKES ? 1 : 3) + s % 2;
             for (int d = 0; d < dusts; d++) {
-                nexts[d] = brushed(d, s);
+                nexts[d] = cells[d];
+                if (isInLine(cells[d], s) && (!isCracked(cells[d]) || isFree(d))) {
+                    nexts[d] = swept(cells[d], way, far(d));
+                }
             }
             return settle();
         }
@@ -1051,19 +1026,17 @@ public final class KinInTheHeap {
         /** A week: how many come to be out by it. */
         int drift() {
             for (int d = 0; d < dusts; d++) {
-                nexts[d] = isLoose(d) ? stepped(cells[d], way(d)) : cells[d];
+                nexts[d] = cells[d];
+                if (cells[d] != NONE && (!isCracked(cells[d]) || isFree(d))) {
+                    nexts[d] = stepped(cells[d], way(d));
+                }
             }
             weeks++;
             return settle();
         }
 
-        private int brushed(int one, int s) {
-            int c = cells[one];
-            if (c == NONE || !isInLine(c, s) || !isLoose(one)) {
-                return c;
-            }
-            int way = (s < ROW_STROKES ? 1 : 3) + s % 2;
-            int steps = far(one);
+        private int swept(int from, int way, int steps) {
+            int c = from;
             for (int i = 0; i < steps; i++) {
                 c = stepped(c, way);
                 if (c == NONE || isCracked(c)) {
@@ -1071,10 +1044,6 @@ public final class KinInTheHeap {
                 }
             }
             return c;
-        }
-
-        private boolean isLoose(int one) {
-            return cells[one] != NONE && (!isCracked(cells[one]) || isFree(one));
         }
 
         /** All go at once, for how one goes hangs on where the others stood ahead. */
@@ -1089,8 +1058,18 @@ public final class KinInTheHeap {
             return out;
         }
 
+        /** What THE RULE tells of one that is in a cell. */
         private int telling(int part, int one) {
-            return within(rule, 0, TEXTS - 1) ? texts[rule].value(part, this, one) : 0;
+            if (!within(rule, 0, TEXTS - 1)) {
+                return 0;
+            }
+            facts[FORCE_FACT] = strength;
+            facts[NUMBER_FACT] = numbers[one];
+            facts[ROW_FACT] = cells[one] / SIDE;
+            facts[COLUMN_FACT] = cells[one] % SIDE;
+            facts[KIN_FACT] = kin(one);
+            facts[WEEK_FACT] = weeks;
+            return texts[rule].value(part, facts);
         }
 
         private static int bounded(int v) {
@@ -1105,6 +1084,9 @@ public final class KinInTheHeap {
         }
 
         private static boolean isInLine(int c, int s) {
+            if (c == NONE) {
+                return false;
+            }
             return s < ROW_STROKES ? c / SIDE == s / 2 : c % SIDE == (s - ROW_STROKES) / 2;
         }
 
@@ -1129,7 +1111,7 @@ public final class KinInTheHeap {
     private static final class Text {
         private final int[] codes = new int[TAPE];
         private final int[] ends = new int[PARTS];
-        private final int[] stack = new int[TAPE];
+        private final int[] stack = new int[TAPE + 1];
         private int size;
         private int parts;
 
@@ -1141,7 +1123,7 @@ public final class KinInTheHeap {
         /** goes force ; frees 0 ; draws 0 ; */
         void becomeFirst() {
             clear();
-            add(NAMES + FORCE_NAME);
+            add(NAMES + FORCE_FACT);
             endPart();
             add(0);
             endPart();
@@ -1163,53 +1145,58 @@ public final class KinInTheHeap {
             }
         }
 
-        int value(int part, Floor floor, int one) {
+        int value(int part, int[] facts) {
             int top = 0;
             for (int i = part == 0 ? 0 : ends[part - 1]; i < ends[part]; i++) {
                 int code = codes[i];
                 if (code >= 0) {
-                    if (top >= TAPE) {
+                    if (top >= TAPE || code - NAMES >= FACTS) {
                         return 0;
                     }
-                    stack[top] = code >= NAMES ? floor.named(code - NAMES, one) : code;
+                    stack[top] = code < NAMES ? code : facts[code - NAMES];
                     top++;
-                } else if (code == NOT || code == NEGATE) {
-                    if (top < 1) {
-                        return 0;
-                    }
-                    stack[top - 1] = code == NEGATE ? -stack[top - 1] : truth(stack[top - 1] == 0);
-                } else {
-                    if (top < 2) {
-                        return 0;
-                    }
-                    top--;
-                    stack[top - 1] = joined(code, stack[top - 1], stack[top]);
+                    continue;
                 }
+                if (code != NOT && code != NEGATE) {
+                    top--;
+                }
+                if (top < 1) {
+                    return 0;
+                }
+                int a = stack[top - 1];
+                int b = stack[top];
+                switch (code) {
+                    case OR:
+                        a = a != 0 || b != 0 ? 1 : 0;
+                        break;
+                    case AND:
+                        a = a != 0 && b != 0 ? 1 : 0;
+                        break;
+                    case NOT:
+                        a = a == 0 ? 1 : 0;
+                        break;
+                    case LESS:
+                        a = a < b ? 1 : 0;
+                        break;
+                    case SAME:
+                        a = a == b ? 1 : 0;
+                        break;
+                    case PLUS:
+                        a = a + b;
+                        break;
+                    case MINUS:
+                        a = a - b;
+                        break;
+                    case TIMES:
+                        a = a * b;
+                        break;
+                    default:
+                        a = -a;
+                        break;
+                }
+                stack[top - 1] = a;
             }
-            return top == 1 ? stack[0] : 0;
-        }
-
-        private static int joined(int code, int a, int b) {
-            switch (code) {
-                case OR:
-                    return truth(a != 0 || b != 0);
-                case AND:
-                    return truth(a != 0 && b != 0);
-                case LESS:
-                    return truth(a < b);
-                case SAME:
-                    return truth(a == b);
-                case PLUS:
-                    return a + b;
-                case MINUS:
-                    return a - b;
-                default:
-                    return a * b;
-            }
-        }
-
-        private static int truth(boolean yes) {
-            return yes ? 1 : 0;
+            return stack[0];
         }
     }
 
@@ -1219,11 +1206,11 @@ public final class KinInTheHeap {
         private final int[] letters = new int[TAPE];
         private final int[] tokens = new int[TAPE + 1];
         private final int[] starts = new int[TAPE + 1];
+        private final int[] waiting = new int[TAPE];
         private int tokenCount;
         private int at;
+        private int waits;
         private int open;
-        private int fault;
-        private Text text;
 
         boolean take(int letter) {
             if (size >= TAPE) {
@@ -1241,21 +1228,14 @@ public final class KinInTheHeap {
         /** The place of the fault, or NONE: then the tape stands in the text. */
         int read(Text into) {
             findTokens();
-            at = 0;
-            open = 0;
-            fault = NONE;
-            text = into;
             into.clear();
+            at = 0;
             for (int part = 0; part < PARTS; part++) {
-                expect(KEY - part);
-                readOr();
-                expect(STOP);
-                into.endPart();
+                if (!readPart(KEY - part, into)) {
+                    return placeOfToken();
+                }
             }
-            if (token() != END) {
-                fail();
-            }
-            return fault;
+            return isToken(END) ? NONE : placeOfToken();
         }
 
         /** Goes no further than the first token that is wrong by itself: no text gets past that one. */
@@ -1380,113 +1360,141 @@ public final class KinInTheHeap {
             return within(letter, '0', '9');
         }
 
-        private boolean failed() {
-            return fault != NONE;
+        private boolean isToken(int wanted) {
+            return at < tokenCount && tokens[at] == wanted;
         }
 
-        private void fail() {
-            if (!failed() && at < tokenCount) {
-                fault = starts[at];
+        private int placeOfToken() {
+            return at < tokenCount ? starts[at] : size;
+        }
+
+        /** Whether key E ; stands there; if not, the token that can't stand there is the one at which it stops. */
+        private boolean readPart(int key, Text into) {
+            if (!isToken(key)) {
+                return false;
             }
-        }
-
-        /** Behind a fault nothing more is read, so that all readings end. */
-        private int token() {
-            return failed() || at >= tokenCount ? WRONG : tokens[at];
-        }
-
-        private void expect(int wanted) {
-            if (token() == wanted) {
-                at++;
-            } else {
-                fail();
+            waits = 0;
+            open = 0;
+            boolean oneIsDue = true;
+            for (at++; at < tokenCount; at++) {
+                int token = tokens[at];
+                if (oneIsDue && token >= 0) {
+                    into.add(token);
+                    oneIsDue = false;
+                } else if (oneIsDue) {
+                    if (!opens(token)) {
+                        return false;
+                    }
+                } else if (token == STOP) {
+                    return ends(into);
+                } else if (token == CLOSE) {
+                    if (!closes(into)) {
+                        return false;
+                    }
+                } else {
+                    if (!joins(token, into)) {
+                        return false;
+                    }
+                    oneIsDue = true;
+                }
             }
+            return false;
         }
 
-        private boolean enter() {
-            if (open >= MOST_OPEN) {
-                fail();
+        private boolean opens(int token) {
+            boolean can = token == OPEN || token == MINUS || token == NOT && lastRank() <= rank(NOT);
+            if (!can || open >= MOST_OPEN) {
                 return false;
             }
             open++;
+            putToWait(token == MINUS ? NEGATE : token);
+            return true;
+        }
+
+        private boolean ends(Text into) {
+            letGo(rank(OR), into);
+            if (waits > 0) {
+                return false;
+            }
+            into.endPart();
             at++;
             return true;
         }
 
-        private void readOr() {
-            readAnd();
-            while (token() == OR) {
-                at++;
-                readAnd();
-                text.add(OR);
+        private boolean closes(Text into) {
+            letGo(rank(OR), into);
+            if (waits <= 0) {
+                return false;
             }
+            waits--;
+            open--;
+            return true;
         }
 
-        private void readAnd() {
-            readNot();
-            while (token() == AND) {
-                at++;
-                readNot();
-                text.add(AND);
+        /** Whether it can stand between two; only < and = can't follow one of their own rank. */
+        private boolean joins(int token, Text into) {
+            int rank = rank(token);
+            if (rank < 0 || token == OPEN || token == NOT) {
+                return false;
             }
-        }
-
-        private void readNot() {
-            if (token() == NOT) {
-                if (enter()) {
-                    readNot();
-                    open--;
-                    text.add(NOT);
-                }
-                return;
-            }
-            readSum();
-            int sign = token();
-            if (sign == LESS || sign == SAME) {
-                at++;
-                readSum();
-                text.add(sign);
-            }
-        }
-
-        private void readSum() {
-            readTerm();
-            while (token() == PLUS || token() == MINUS) {
-                int sign = token();
-                at++;
-                readTerm();
-                text.add(sign);
-            }
-        }
-
-        private void readTerm() {
-            readOne();
-            while (token() == TIMES) {
-                at++;
-                readOne();
-                text.add(TIMES);
-            }
-        }
-
-        private void readOne() {
-            int one = token();
-            if (one >= 0) {
-                text.add(one);
-                at++;
-            } else if (one == MINUS) {
-                if (enter()) {
-                    readOne();
-                    open--;
-                    text.add(NEGATE);
-                }
-            } else if (one == OPEN) {
-                if (enter()) {
-                    readOr();
-                    expect(CLOSE);
-                    open--;
-                }
+            if (rank != rank(LESS)) {
+                letGo(rank, into);
             } else {
-                fail();
+                letGo(rank + 1, into);
+                if (lastRank() == rank) {
+                    return false;
+                }
+            }
+            putToWait(token);
+            return true;
+        }
+
+        private void putToWait(int code) {
+            if (waits < TAPE) {
+                waiting[waits] = code;
+                waits++;
+            }
+        }
+
+        /** What waits and binds no less than a rank has all that it belongs to. */
+        private void letGo(int rank, Text into) {
+            while (waits > 0 && lastRank() >= rank) {
+                waits--;
+                int code = waiting[waits];
+                if (code == NOT || code == NEGATE) {
+                    open--;
+                }
+                into.add(code);
+            }
+        }
+
+        private int lastRank() {
+            return waits > 0 ? rank(waiting[waits - 1]) : 0;
+        }
+
+        /** How strongly it binds; below 0: nothing that waits. */
+        private static int rank(int code) {
+            switch (code) {
+                case OPEN:
+                    return 0;
+                case OR:
+                    return 1;
+                case AND:
+                    return 2;
+                case NOT:
+                    return 3;
+                case LESS:
+                case SAME:
+                    return 4;
+                case PLUS:
+                case MINUS:
+                    return 5;
+                case TIMES:
+                    return 6;
+                case NEGATE:
+                    return 7;
+                default:
+                    return -1;
             }
         }
     }
