@@ -16,15 +16,16 @@ public final class KinInTheHeap {
     /** The kind that each kind is directly under. */
     private static final int[] ABOVE = {NONE, MOTE, MOTE, UNCLE, SPARK, MOTE};
 
-    // Tokens of a text, and the codes it is kept as: 0 .. 9999 a number, NAMES and more a name, below 0 the rest.
+    // Tokens of a text, and the codes it is kept as: 0 .. 9999 a number, NAMES and more a name, below 0 the rest;
+    // KEY and less are the words goes, frees, draws, or, and, not; SIGN and less the SIGNS, both in this order.
     private static final int NAMES = 10000, END = -1, WRONG = -2, KEY = -3, SIGN = -10;
     private static final int OR = KEY - 3, AND = KEY - 4, NOT = KEY - 5;
     private static final String SIGNS = "();+-*<=";
     private static final int OPEN = SIGN, CLOSE = SIGN - 1, STOP = SIGN - 2, PLUS = SIGN - 3, MINUS = SIGN - 4;
     private static final int TIMES = SIGN - 5, LESS = SIGN - 6, SAME = SIGN - 7, NEGATE = SIGN - 8;
     private static final int KEY_WORDS = 6, WORDS = 12, MOST_DIGITS = 4, MOST_OPEN = 5;
-    private static final int FORCE_FACT = 0, NUMBER_FACT = 1, ROW_FACT = 2, COLUMN_FACT = 3, KIN_FACT = 4, WEEK_FACT = 5;
-    private static final int FACTS = 6;
+    private static final int FORCE_FACT = 0, NUMBER_FACT = 1, ROW_FACT = 2, COLUMN_FACT = 3, KIN_FACT = 4;
+    private static final int WEEK_FACT = 5, FACTS = 6;
 
     private final Text[] texts = new Text[TEXTS];
     private final Sheet[] sheets = new Sheet[SHEETS];

@@ -474,6 +474,13 @@ public final class PromisesTest {
         y.set(4, 0, 3);
         y.set(4, 1, 3);
         due("14 both in a crack", y.gather(3, 1), 0);
+        y.set(1, 0, 1);
+        y.set(2, 1, 1);
+        y.set(2, 6, 0);
+        y.set(2, 7, 1);
+        y.set(4, 0, 6);
+        y.set(4, 1, 1);
+        due("14 column 0 to less, then row 0 to more", y.gather(3, 1), 1401);
     }
 
     private static void best(String call, KinInTheHeap x, int... answers) {
@@ -628,12 +635,20 @@ public final class PromisesTest {
         due("19 bad", x.tells(0, 0, 7), -2);
         due("19 bad ahead of missing", x.tells(3, 0, 7), -2);
         due("19 missing", x.tells(3, 0, 0), -11);
+        rule(x, "goes (week=99)+2*(week=100);frees 0;draws 0;");
+        fill(x, 3, 0, 1);
+        due("19 week 99", x.tells(3, 0, 3), 1);
+        due("19 week 99", x.tells(3, 0, 4), 99);
+        x.cell(3, 0, 2);
+        due("19 week 100 is none of them", x.tells(3, 0, 3), 0);
+        due("19 week 100 is none of them", x.tells(3, 0, 4), -1);
+        x.force(2);
         x.sheet(3, 0, 10);
         due("19 ten", x.tells(3, 0, 6), 0);
         x.sheet(3, 0, 11);
         due("19 more than ten", x.tells(3, 0, 0), -2);
         x.sheet(3, 0, 0);
-        due("19 an empty one tells nothing that is otherwise", x.tells(3, 0, 5), 15);
+        due("19 an empty one tells nothing that is otherwise", x.tells(3, 0, 5), 31);
     }
 
     private static void promise20() {

@@ -221,7 +221,23 @@ public final class TextsTest {
         fault("goes not(1)^);");
     }
 
+    /** What stood on the tape ahead is nothing to the next text, nor is what would stand behind its end. */
+    private static void tapeEnds() {
+        KinInTheHeap x = new KinInTheHeap();
+        due("a full tape of one byte each", read(x, "(".repeat(160)), -100);
+        due("a full tape of digits", read(x, "1".repeat(160)), -100);
+        due("a full tape of letters", read(x, "goes " + "a".repeat(155)), -105);
+        due("four digits ahead of the end", read(x, "goes 1111"), -109);
+        due("a word ahead of the end", read(x, "goes"), -104);
+        String text = "goes force;frees 0;draws 0;";
+        due("a number as the last byte", read(x, text + " ".repeat(132) + "1"), -259);
+        due("a letter as the last byte", read(x, text + " ".repeat(132) + "a"), -259);
+        due("a full tape that is a text", read(x, text + "\n".repeat(133)), 1);
+        due("blanks alone", read(x, " ".repeat(160)), -260);
+    }
+
     public static void main(String[] args) {
+        tapeEnds();
         values();
         rights();
         structureFaults();
