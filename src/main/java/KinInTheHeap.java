@@ -607,11 +607,11 @@ public final class KinInTheHeap {
 
     private int leastSpread() {
         int first = 0;
-        int least = Integer.MAX_VALUE;
+        int least = -1;
         for (int s = 0; s < STROKES; s++) {
             think(s);
             int apart = thought.spread();
-            if (apart < least) {
+            if (least < 0 || apart < least) {
                 least = apart;
                 first = s;
             }

@@ -17,6 +17,10 @@ public final class BestEdgesTest extends Edges {
     private static void gatherHowMany() {
         // Promise 14, "the fewest STROKES (0 .. 2) by which all these are IN one CELL": none, they are.
         due(motes(7, 7).gather(3, 0), 0);
+        // Promise 14, "(0 .. 2) by which all these are IN one CELL": the first cell is one.
+        due(motes(0, 0).gather(3, 0), 0);
+        // Promise 14, "(0 .. 2) by which all these are IN one CELL": by one stroke in the first cell.
+        due(cracked(motes(0, 3), 0).gather(3, 1), 2);
         // Promise 14, "the STROKES (.. 0: none)".
         due(motes(7, 7).gather(3, 1), 0);
         // Promise 14, "some (of those there are, one at least)": one alone is IN one CELL.
@@ -140,6 +144,10 @@ public final class BestEdgesTest extends Edges {
         due(motes(5, 30).best(3), 0);
         // Promise 15, "TIDY (2)": one that is not the first.
         due(forced(cracked(motes(16, 28), 16), 1).best(2), 21);
+        // Promise 15, "TIDY (2)": the last one, 23.
+        due(cracked(motes(5, 23, 29), 5, 35).best(2), 23);
+        // Promise 15, "SPREAD then (3)": two rows in all.
+        due(cracked(motes(5, 23, 29), 5, 35).best(3), 2);
         // Promise 15, "SPREAD then (3)": a row apart.
         due(forced(cracked(motes(16, 28), 16), 1).best(3), 1);
         // Promise 15, "TIDY .. of like ones the first": of 0 and 1.
@@ -161,6 +169,12 @@ public final class BestEdgesTest extends Edges {
         due(forced(motes(35), 9).best(4), 10);
         // Promise 15, "how many are OUT then (5": it.
         due(forced(motes(35), 9).best(5), 1);
+        // Promise 15, "LOSE .. fewest are OUT then": all eight, by each that moves anybody.
+        due(forced(motes(35, 35, 35, 35, 35, 35, 35, 35), 9).best(4), 10);
+        // Promise 15, "how many are OUT then (5": all eight.
+        due(forced(motes(35, 35, 35, 35, 35, 35, 35, 35), 9).best(5), 8);
+        // Promise 15, "LOSE": the first one, 0.
+        due(motes(0).best(4), 0);
         // Promise 15, "LOSE (4; NONE)": nobody goes by force 0.
         due(forced(motes(14), 0).best(4), NONE);
         // Promise 15, "how many are OUT then (5; NONE)": nobody goes by force 0.

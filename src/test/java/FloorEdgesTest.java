@@ -84,6 +84,8 @@ public final class FloorEdgesTest extends Edges {
         KinInTheHeap x;
         // Promise 2, "FORCE (1; nor)": what it was, 3 at first.
         due(bare().set(1, 0, 0), 3);
+        // Promise 2, "FORCE (1; nor)": what it was, 9 as it was set.
+        due(forced(bare(), 9).set(1, 0, 0), 9);
         // Promise 2, "FORCE of the brush (0 .. 9": 0 is one.
         x = bare();
         x.set(1, 0, 0);
@@ -122,6 +124,14 @@ public final class FloorEdgesTest extends Edges {
         x = bare();
         x.set(2, 4, 0);
         due(x.told(4, 2), 0);
+        // Promise 2, "whether a CELL has a CRACK (2; .. 0)": one that was there is gone, and no other.
+        x = cracked(bare(), 0, 4, 35);
+        x.set(2, 4, 0);
+        due(x.where(1), 1L << 35 | 1);
+        // Promise 2, "whether a CELL has a CRACK (2; .. 0)": that of the last cell.
+        x = cracked(bare(), 0, 4, 35);
+        x.set(2, 35, 0);
+        due(x.where(1), 17);
         // Promise 2, "CELLS 0 .. 35": the first.
         due(cracked(bare(), 0).where(1), 1);
         // Promise 2, "CELLS 0 .. 35": the last.

@@ -68,8 +68,33 @@ public final class RulesTest {
                 fail(c + " is not of the face");
             }
         }
+        for (Method m : x.getDeclaredMethods()) {
+            if (Modifier.isPrivate(m.getModifiers()) && names.contains(m.getName())) {
+                fail(m + " bears the name of a public one");
+            }
+        }
+        if (x.getDeclaredClasses().length > 12) {
+            fail("there are " + x.getDeclaredClasses().length + " classes inside");
+        }
+        small(x);
         for (Class<?> in : x.getDeclaredClasses()) {
             inside(in, names);
+        }
+    }
+
+    /** Some twenty fields beside the constants, and seven parameters at most. */
+    private static void small(Class<?> x) {
+        int fields = 0;
+        for (Field f : x.getDeclaredFields()) {
+            fields += Modifier.isStatic(f.getModifiers()) ? 0 : 1;
+        }
+        if (fields > 20) {
+            fail(x + " has " + fields + " fields");
+        }
+        for (Method m : x.getDeclaredMethods()) {
+            if (m.getParameterCount() > 7) {
+                fail(m + " takes too many");
+            }
         }
     }
 
@@ -77,19 +102,10 @@ public final class RulesTest {
         if (!Modifier.isStatic(in.getModifiers()) || Modifier.isPublic(in.getModifiers()) || Modifier.isProtected(in.getModifiers())) {
             fail(in + " is not static, or can be seen");
         }
-        int fields = 0;
-        for (Field f : in.getDeclaredFields()) {
-            fields += Modifier.isStatic(f.getModifiers()) ? 0 : 1;
-        }
-        if (fields > 20) {
-            fail(in + " has " + fields + " fields");
-        }
+        small(in);
         for (Method m : in.getDeclaredMethods()) {
             if (names.contains(m.getName()) || List.of("equals", "hashCode", "toString").contains(m.getName())) {
                 fail(m + " bears a name that it should not");
-            }
-            if (m.getParameterCount() > 7) {
-                fail(m + " takes too many");
             }
         }
     }
@@ -116,7 +132,7 @@ public final class RulesTest {
         }
         Matcher library = Pattern.compile("\\b(Math|Integer|Long|System|Arrays)\\.(\\w+)").matcher(s);
         List<String> may = List.of("Math.max", "Math.min", "Math.abs", "Math.floorMod", "Integer.bitCount", "Long.bitCount",
-            "Integer.MAX_VALUE", "System.arraycopy");
+            "System.arraycopy");
         while (library.find()) {
             if (!may.contains(library.group())) {
                 fail("the source has " + library.group());

@@ -96,6 +96,10 @@ public final class StrokeEdgesTest extends Edges {
         due(behind(forced(motes(35), 5), 23), 5);
         // Promise 8, "whoever would come over the edge is OUT": column to less.
         due(behind(forced(motes(5), 1), 23), NONE);
+        // Promise 8, "whoever would come over the edge is OUT": column to less, from the first cell of all.
+        due(behind(forced(motes(0), 1), 13), NONE);
+        // Promise 8, "whoever would come over the edge is OUT": column to less, from the first cell, as far as can be.
+        due(behind(forced(motes(0), 9), 13), NONE);
         // Promise 8, "CELL by CELL as many as one GOES": none.
         due(behind(forced(motes(5), 0), 0), 5);
         // Promise 8, "how many come to be OUT by it": none, who stay at the edge.
@@ -209,6 +213,14 @@ public final class StrokeEdgesTest extends Edges {
         due(behindWeek(drawing(motes(6), "4")), 0);
         // Promise 9, "4 a ROW less .. over the edge OUT".
         due(behindWeek(drawing(motes(5), "4")), NONE);
+        // Promise 9, "1 a COLUMN more .. over the edge OUT": from each row.
+        due(drawing(motes(5, 11, 17, 23, 29, 35), "1").week(), 6);
+        // Promise 9, "2 a COLUMN less .. over the edge OUT": from each row.
+        due(drawing(motes(0, 6, 12, 18, 24, 30), "2").week(), 6);
+        // Promise 9, "3 a ROW more .. over the edge OUT": from each column.
+        due(drawing(motes(30, 31, 32, 33, 34, 35), "3").week(), 6);
+        // Promise 9, "4 a ROW less .. over the edge OUT": from each column.
+        due(drawing(motes(0, 1, 2, 3, 4, 5), "4").week(), 6);
         // Promise 9, "v modulo 5, made 0 or more": -1 is a row less.
         due(behindWeek(drawing(motes(14), "-1")), 8);
         // Promise 9, "go one CELL": whatever one goes by a stroke.
@@ -282,6 +294,11 @@ public final class StrokeEdgesTest extends Edges {
         due(row(motes(0), 0, BYTES, 0).sweep(0, 10), 3);
         // Promise 10, "where DUST what less 10 is then (10 ..": the last of eight.
         due(row(motes(0, 0, 0, 0, 0, 0, 0, 1), 0, BYTES, 0).sweep(0, 17), 4);
+        // Promise 10, "where DUST what less 10 is then (10 ..": the last of eight as its KIND goes.
+        due(row(dusts(0, 0, 9, 0, 0, 9, 0, 0, 9, 0, 0, 9, 0, 0, 9, 0, 0, 9, 0, 0, 9, SPARK, 0, 0), 0, BYTES, 0).sweep(0, 17), 4);
+        // Promise 10, "where DUST what less 10 is then (10 ..": the last of eight as its NUMBER tells.
+        due(row(forced(dusts(0, 0, 9, 0, 0, 9, 0, 0, 9, 0, 0, 9, 0, 0, 9, 0, 0, 9, 0, 0, 9, CINDER, 2, 0), 6), 0, BYTES, 0)
+            .sweep(0, 17), 2);
         // Promise 10, "(10 ..; NONE)": out by it.
         due(row(motes(5), 0, BYTES, 0).sweep(0, 10), NONE);
         // Promise 10, "(10 ..; NONE)": out ahead.
@@ -405,6 +422,8 @@ public final class StrokeEdgesTest extends Edges {
         due(motes(35, 35, 35, 35, 35, 35, 35, 35).floor(0), 1);
         // Promise 12, "HEAPS": each of eight in another.
         due(motes(0, 1, 2, 3, 32, 33, 34, 35).floor(0), 8);
+        // Promise 12, "GREATEST: how many are IN the CELL that has most": one alone, the others are out.
+        due(motes(3, NONE, NONE).floor(1), 1);
         // Promise 12, "GREATEST: how many are IN the CELL that has most": one each.
         due(motes(0, 1, 2).floor(1), 1);
         // Promise 12, "GREATEST": all eight.
@@ -425,6 +444,10 @@ public final class StrokeEdgesTest extends Edges {
         due(motes(5, 6).floor(3), 6);
         // Promise 12, "SPREAD": the first row's last cell, the last row's first one.
         due(motes(5, 30).floor(3), 10);
+        // Promise 12, "SPREAD": the other way round, 5 columns, 1 row.
+        due(motes(6, 5).floor(3), 6);
+        // Promise 12, "SPREAD": the other way round, 5 columns, 5 rows.
+        due(motes(30, 5).floor(3), 10);
         // Promise 12, "of all twos IN CELLS": not with those who are out.
         due(motes(0, NONE, 35).floor(3), 10);
         // Promise 12, "SPREAD": four in the first cell, four in the last: 16 twos.
@@ -455,6 +478,10 @@ public final class StrokeEdgesTest extends Edges {
         due(forced(motes(35), 0).where(10), 1L << 35);
         // Promise 13, "by the STROKES 0 .. 23": from cell 5 by 1 to 2, by 22 to 23, by 0 and 23 out.
         due(motes(5).where(10), 1L << 2 | 1L << 5 | 1L << 23);
+        // Promise 13, "by the STROKES 0 .. 23": from cell 0 by 0 to 3, by 12 to 18, by 1 and 13 out.
+        due(motes(0).where(10), 1L | 1L << 3 | 1L << 18);
+        // Promise 13, "by the STROKES 0 .. 23": from cell 35 by 11 to 32, by 23 to 17, by 10 and 22 out.
+        due(motes(35).where(10), 1L << 35 | 1L << 32 | 1L << 17);
         // Promise 13, "(10 ..; OUT: not told)": it would be out by every stroke that moves it.
         due(forced(motes(14), 9).where(10), 1L << 14);
         // Promise 13, "(10 ..; OUT: not told)": it is out.

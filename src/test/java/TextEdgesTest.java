@@ -102,6 +102,26 @@ public final class TextEdgesTest extends Edges {
         x = fed(motes(16), "goes 9;frees 1;draws ?");
         x.text();
         due(ruled(x, "goes 2;frees 0;draws 0;").told(0, 7), 2);
+        // Promise 6, "its number": what a faulty one had stands in none that comes behind it, how free it was.
+        x = fed(motes(16), "goes 9-1-1;frees 1;draws ?");
+        x.text();
+        due(ruled(x, "goes 2;frees 1-1;draws 3;").told(0, 8), 0);
+        // Promise 6, "its number": what a faulty one had stands in none that comes behind it, how it drew.
+        x = fed(motes(16), "goes 1+1*1;frees ?");
+        x.text();
+        due(ruled(x, "goes 2;frees 0;draws 3;").told(0, 9), 3);
+        // Promise 6, "its number": what a faulty one left undone is nothing to the next.
+        x = fed(bare(), "goes ((1+");
+        x.text();
+        due(fed(x, RULE).text(), 1);
+        // Promise 6, "while 5 of these are open": what a faulty one left open is nothing to the next.
+        x = fed(bare(), "goes (((((");
+        x.text();
+        due(fed(x, "goes (((((1)))));frees 0;draws 0;").text(), 1);
+        // Promise 6, "is a TEXT": a second one is nothing to the first.
+        x = ruled(motes(16), "goes 7;frees 1;draws 2;");
+        fed(x, "goes 1;frees 0;draws 3;").text();
+        due(x.told(0, 7), 7);
         // Promise 6, "is a TEXT": it isn't THE RULE by that.
         x = fed(motes(16), "goes 9;frees 0;draws 0;");
         x.text();
@@ -114,6 +134,14 @@ public final class TextEdgesTest extends Edges {
         due(read("goes force;frees 0;draws" + " ".repeat(134) + "0;"), 1);
         // Promise 6, "-100 less the place of its FAULT": the last byte of 160, place 159.
         due(read(RULE + " ".repeat(159 - RULE.length()) + "?"), -259);
+        // Promise 6, "THE TAPE (160 bytes at most)": as many TOKENS as that.
+        due(read(";".repeat(160)), -100);
+        // Promise 6, "THE TAPE (160 bytes at most)": as many ( as that.
+        due(read("goes " + "(".repeat(155)), -110);
+        // Promise 6, "(the text's size, if it ends too early)": 160 bytes of TOKENS that can stand there.
+        due(read("goes 1" + "+1".repeat(77)), -260);
+        // Promise 6, "THE TAPE (160 bytes at most)": an E as long as can be.
+        due(read("goes -1" + "+1".repeat(68) + ";frees 1;draws 1;"), 1);
         // Promise 6, "(the text's size, if it ends too early)": 160 bytes, place 160.
         due(read(" ".repeat(160)), -260);
     }
@@ -154,10 +182,18 @@ public final class TextEdgesTest extends Edges {
         due(forced(motes(16), 9).told(0, 7), 9);
         // Promise 7, "TEXT 0 .. is: .. frees 0 ;".
         due(motes(16).told(0, 8), 0);
+        // Promise 7, "TEXT 0 .. is: .. frees 0 ;": behind how far it goes was asked.
+        KinInTheHeap x = motes(16);
+        x.told(0, 7);
+        due(x.told(0, 8), 0);
         // Promise 7, "TEXT 0 .. is: .. draws 0 ;".
         due(motes(16).told(0, 9), 0);
+        // Promise 7, "TEXT 0 .. is: .. draws 0 ;": behind how far it goes was asked.
+        x = motes(16);
+        x.told(0, 7);
+        due(x.told(0, 9), 0);
         // Promise 7, "A TEXT is THE RULE": TEXT 0 again.
-        KinInTheHeap x = ruled(motes(16), "goes 9;frees 1;draws 1;");
+        x = ruled(motes(16), "goes 9;frees 1;draws 1;");
         x.force(0);
         due(x.told(0, 7), 3);
     }
@@ -231,6 +267,8 @@ public final class TextEdgesTest extends Edges {
         due(read("goes 00000;"), -105);
         // Promise 6, "a NUMBER that is too long": as long as THE TAPE.
         due(read("1".repeat(160)), -100);
+        // Promise 6, "a NUMBER that is too long": behind the whole text.
+        due(read(RULE + "10000"), -127);
         // Promise 6, "NUMBERS (.. 4 at most)": 4 with 0 ahead.
         due(e("0007"), 7);
         // Promise 6, "NUMBERS": 0.
@@ -300,6 +338,10 @@ public final class TextEdgesTest extends Edges {
         due(read("goes 0;frees 0;frees 0;"), -115);
         // Promise 6, "TEXT: goes E ; frees E ; draws E ;": no E.
         due(read("goes;frees 0;draws 0;"), -104);
+        // Promise 6, "TEXT: goes E ; frees E ; draws E ;": neither E nor ;.
+        due(read("goes frees 0;draws 0;"), -105);
+        // Promise 6, "TEXT: goes E ; frees E ; draws E ;": half an E, and no ;.
+        due(read("goes 1+frees 0;draws 0;"), -107);
         // Promise 6, "TEXT: goes E ; frees E ; draws E ;": no ; between.
         due(read("goes 0 frees 0;draws 0;"), -107);
         // Promise 6, "TEXT: goes E ; frees E ; draws E ;": a ; more in between.
@@ -417,6 +459,14 @@ public final class TextEdgesTest extends Edges {
         due(read("goes (((((1-1-1)))));frees 0;draws 0;"), 1);
         // Promise 6, "a - ahead of a ONE while 5 of these are open": behind a - between TERMS.
         due(read("goes (((((1--1)))));"), -112);
+        // Promise 6, "while 5 of these are open": TERMS that stand ahead make room for no more.
+        due(read("goes 1+1+((((((1"), -114);
+        // Promise 6, "while 5 of these are open": ONES that stand ahead make room for no more.
+        due(read("goes 1*1*((((((1"), -114);
+        // Promise 6, "while 5 of these are open": ANDS that stand ahead make room for no more.
+        due(read("goes 1 or 1 or((((((1"), -119);
+        // Promise 6, "while 5 of these are open": NOTS that stand ahead make room for no more.
+        due(read("goes 1<1 and 1=1 and not not not not not not 1"), -141);
         // Promise 6, "FAULT: .. a (": the sixth is the fault ahead of what is wrong behind it.
         due(read("goes ((((((?"), -110);
         // Promise 6, "FAULT: .. the first TOKEN": what is wrong ahead of a sixth ( is the fault.
@@ -495,6 +545,16 @@ public final class TextEdgesTest extends Edges {
         due(e("2=2"), 1);
         // Promise 6, "of .. = 1 or 0": unlike.
         due(e("2=1"), 0);
+        // Promise 6, "of or .. 1 or 0": it is 0, not below.
+        due(is("0 or 0", "0"), 1);
+        // Promise 6, "of .. and .. 1 or 0": it is 0, not below.
+        due(is("3 and 0", "0"), 1);
+        // Promise 6, "of .. not .. 1 or 0": it is 0, not below.
+        due(is("not 3", "0"), 1);
+        // Promise 6, "of .. < .. 1 or 0": it is 0, not below.
+        due(is("2<2", "0"), 1);
+        // Promise 6, "of .. = 1 or 0": it is 0, not below.
+        due(is("2=1", "0"), 1);
         // Promise 6, "E: AND { or AND }": an E that is one ONE stays what it is, it is not made 1.
         due(e("7"), 7);
     }

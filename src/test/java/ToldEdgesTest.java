@@ -450,6 +450,18 @@ public final class ToldEdgesTest extends Edges {
         due(laidBack().told(0, 1), 3);
         // Promise 25, "AN IMAGE keeps .. NUMBERS".
         due(laidBack().told(0, 3), 0);
+        // Promise 25, "AN IMAGE keeps .. NUMBERS": that of the last of eight.
+        x = motes(0, 0, 0, 0, 0, 0, 0, 0);
+        x.image();
+        x.set(3, 7, 9);
+        x.back();
+        due(x.told(7, 3), 0);
+        // Promise 25, "AN IMAGE keeps .. where all are": the last of eight.
+        x = motes(0, 0, 0, 0, 0, 0, 0, 0);
+        x.image();
+        x.set(4, 7, NONE);
+        x.back();
+        due(x.told(7, 4), 0);
         // Promise 25, "AN IMAGE keeps .. where all are": in a cell.
         due(laidBack().told(0, 4), 35);
         // Promise 25, "AN IMAGE keeps .. where all are": out.
