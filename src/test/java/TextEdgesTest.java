@@ -114,6 +114,14 @@ public final class TextEdgesTest extends Edges {
         x = fed(bare(), "goes ((1+");
         x.text();
         due(fed(x, RULE).text(), 1);
+        // Promise 6, "THE TAPE, which is empty then": a WORD at its end doesn't go on in what stood there ahead.
+        x = fed(bare(), "goes forceforce");
+        x.text();
+        due(fed(x, "goes force").text(), -110);
+        // Promise 6, "THE TAPE, which is empty then": a NUMBER at its end doesn't go on in what stood there ahead.
+        x = fed(bare(), "goes 12345");
+        x.text();
+        due(fed(x, "goes 1234").text(), -109);
         // Promise 6, "while 5 of these are open": what a faulty one left open is nothing to the next.
         x = fed(bare(), "goes (((((");
         x.text();
@@ -142,6 +150,12 @@ public final class TextEdgesTest extends Edges {
         due(read("goes 1" + "+1".repeat(77)), -260);
         // Promise 6, "THE TAPE (160 bytes at most)": an E as long as can be.
         due(read("goes -1" + "+1".repeat(68) + ";frees 1;draws 1;"), 1);
+        // Promise 6, "(the text's size, if it ends too early)": 160 bytes, the last one a WORD's.
+        due(read("goes force" + " ".repeat(147) + "and"), -260);
+        // Promise 6, "(the text's size, if it ends too early)": 160 bytes, the last one a NUMBER's.
+        due(read("goes " + " ".repeat(151) + "1234"), -260);
+        // Promise 6, "a WORD that is neither KEY nor NAME": as long as THE TAPE.
+        due(read("a".repeat(160)), -100);
         // Promise 6, "(the text's size, if it ends too early)": 160 bytes, place 160.
         due(read(" ".repeat(160)), -260);
     }
