@@ -11,7 +11,7 @@ abstract class Edges {
     private static int wrong = 0;
     private static int tests = 0;
 
-    /** The line that is printed stands right below the remark that tells the promise and its sentence. */
+    /** The line whose number is printed stands below the remark that tells the promise and its sentence. */
     static void due(long got, long want) {
         tests++;
         if (got != want) {
